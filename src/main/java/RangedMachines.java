@@ -796,8 +796,11 @@ public final class RangedMachines {
         /** One range: from a letter to another. */
         void become(int least, int greatest) {
             used = 0;
-            addCut(least);
-            addCut(greatest + 1);
+            if (cuts.length >= 2) {
+                cuts[0] = least;
+                cuts[1] = greatest + 1;
+                used = 2;
+            }
         }
 
         void copy(LetterSet x) {
@@ -907,30 +910,30 @@ public final class RangedMachines {
                 from += step;
             }
             add(from < length ? NO_TOKEN : THE_END, from, 0L);
-            standAt(0);
+            cursor = -1;
+            step();
         }
 
+        /** Behind the last token there is none to step to. */
         void step() {
-            standAt(cursor + 1);
+            if (cursor + 1 < tokens) {
+                cursor++;
+                kind = kinds[cursor];
+                spot = spots[cursor];
+                value = values[cursor];
+            }
         }
 
         boolean fail(int number) {
-            return failAt(number, spot);
-        }
-
-        boolean failAt(int number, int where) {
             faultNumber = number;
-            faultSpot = where;
+            faultSpot = spot;
             return false;
         }
 
-        private void standAt(int token) {
-            if (isIn(token, tokens)) {
-                cursor = token;
-                kind = kinds[token];
-                spot = spots[token];
-                value = values[token];
-            }
+        boolean failAt(int number, int itsSpot) {
+            faultNumber = number;
+            faultSpot = itsSpot;
+            return false;
         }
 
         /** How many bytes the token has; 0 if none begins here. */
@@ -1090,34 +1093,25 @@ public final class RangedMachines {
         }
 
         private boolean readPart(SetTable sets) {
-            int kind = text.kind;
-            if (kind == '!' || kind == '(') {
-                return openSign(kind);
+            boolean not = text.kind == '!';
+            if (not || text.kind == '(') {
+                if (opened >= DEEPEST || level + 1 >= LEVELS) {
+                    return text.fail(DEEP);
+                }
+                opened++;
+                text.step();
+                if (not) {
+                    nots[level]++;
+                } else {
+                    level++;
+                    openLevel();
+                }
+                return true;
             }
-            boolean fine;
-            if (kind == '[') {
-                fine = readRanges();
-            } else {
-                fine = readName(sets);
+            if (text.kind == '[' ? !readRanges() : !readName(sets)) {
+                return false;
             }
-            if (fine) {
-                closePart(leaf);
-            }
-            return fine;
-        }
-
-        private boolean openSign(int kind) {
-            if (opened >= DEEPEST || level + 1 >= LEVELS) {
-                return text.fail(DEEP);
-            }
-            opened++;
-            text.step();
-            if (kind == '!') {
-                nots[level]++;
-            } else {
-                level++;
-                openLevel();
-            }
+            closePart(leaf);
             return true;
         }
 

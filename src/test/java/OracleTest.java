@@ -74,7 +74,7 @@ public final class OracleTest {
         int calls = 0;
         int style = random.nextInt(4);
         while (calls < 512) {
-            if (calls == 0 || random.nextInt(style == 0 ? 12 : 150) == 0) {
+            if (oracle.machines.isEmpty() && random.nextInt(8) > 0 || random.nextInt(style == 0 ? 12 : 150) == 0) {
                 int used = bench(calls);
                 if (used < 0) {
                     return false;
@@ -158,12 +158,47 @@ public final class OracleTest {
             } else if (kind == 'K') {
                 arguments[i] = place(m, (Integer) arguments[1]);
             } else {
-                int number = random.nextInt(60) == 0 ? wild() : number(kind, m);
+                int number = random.nextInt(60) == 0 ? wild()
+                        : kind == 'i' ? random.nextInt(1 + howMany(name, arguments)) : number(kind, m);
                 arguments[i] = number;
                 m = kind == 'm' ? number : m;
             }
         }
         return arguments;
+    }
+
+    /** Of the things that the next argument tells how many there are; the oracle's trouble stays. */
+    private int howMany(String name, Object[] a) {
+        int trouble = oracle.trouble;
+        int n;
+        switch (name) {
+            case "range":
+                n = oracle.ranges((Integer) a[0]);
+                break;
+            case "mixedRange":
+                n = oracle.mixedRanges((Integer) a[0], (Integer) a[1], (Integer) a[2]);
+                break;
+            case "edgeRange":
+                n = oracle.edge((Integer) a[0], (Integer) a[1], 2);
+                break;
+            case "term":
+                n = oracle.terms((Integer) a[0], (Integer) a[1]);
+                break;
+            case "firstLetter":
+                n = oracle.first((Integer) a[0], (Integer) a[1]);
+                break;
+            case "partingLetter":
+                n = oracle.parting((Integer) a[0], (Integer) a[1], (Integer) a[2]);
+                break;
+            case "foundLetter":
+                n = oracle.found((Integer) a[0], (Integer) a[1], (Integer) a[2]);
+                break;
+            default:
+                n = 3;
+                break;
+        }
+        oracle.trouble = trouble;
+        return Math.max(n, 0);
     }
 
     private int wild() {
@@ -211,8 +246,6 @@ public final class OracleTest {
                 return random.nextInt(x == null ? 1 : x.sheaves.size() + 1);
             case 'e':
                 return random.nextInt(x == null ? 1 : 1 + Math.max(x.edges.size(), x.frees.size()));
-            case 'i':
-                return random.nextInt(random.nextInt(6) + 1);
             case 'n':
                 return random.nextInt(5);
             case 'w':

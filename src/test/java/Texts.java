@@ -55,6 +55,9 @@ final class Texts {
 
     private void set() {
         String name = name();
+        for (int i = 0; i < 5 && names.contains(name); i++) {
+            name = name();
+        }
         out.append("set ").append(name).append(' ');
         body(0);
         names.add(name);
@@ -71,22 +74,33 @@ final class Texts {
     private void machine() {
         int states = chance(15) ? 1 + random.nextInt(13) : 1 + random.nextInt(5);
         out.append("machine ").append(states);
-        int edges = chance(12) ? random.nextInt(26) : 1 + random.nextInt(2 + 2 * states);
+        int edges = chance(12) ? random.nextInt(26) : states + random.nextInt(2 + states);
         int frees = chance(12) ? random.nextInt(10) : random.nextInt(3);
-        int ends = random.nextInt(3);
+        int ends = chance(15) ? 0 : Math.min(states, 1 + random.nextInt(2));
+        boolean narrow = chance(2);
+        List<Integer> told = new ArrayList<>();
         while (edges + frees + ends > 0) {
             int pick = random.nextInt(edges + frees + ends);
             out.append(';').append(chance(20) ? " " : "");
             if (pick < edges) {
                 edges--;
                 out.append("edge ").append(state(states)).append(' ').append(state(states)).append(' ');
-                body(0);
+                if (narrow) {
+                    out.append('[').append(random.nextInt(3)).append(']');
+                } else {
+                    body(0);
+                }
             } else if (pick < edges + frees) {
                 frees--;
                 out.append("free ").append(state(states)).append(' ').append(state(states));
             } else {
                 ends--;
-                out.append("end ").append(state(states));
+                int end = state(states);
+                for (int i = 0; i < 9 && told.contains(end); i++) {
+                    end = state(states);
+                }
+                told.add(end);
+                out.append("end ").append(end);
             }
         }
     }
