@@ -1846,30 +1846,22 @@ public final class RangedMachines {
             return true;
         }
 
-        /** The states to which free steps alone lead from each. */
+        /**
+         * The states to which free steps alone lead from each. One step after the other is enough: what the steps
+         * before it close stays closed.
+         */
         private void closeFrees(Machine x) {
             for (int q = 0; q < x.states; q++) {
                 closures[q] = 1L << q;
             }
-            boolean grown = true;
-            for (int turn = 0; grown && turn <= STATES; turn++) {
-                grown = false;
-                for (int i = 0; i < x.frees; i++) {
-                    grown |= widenClosures(x, i);
+            for (int i = 0; i < x.frees; i++) {
+                long more = closures[x.freeTos[i]];
+                for (int q = 0; q < x.states; q++) {
+                    if ((closures[q] >>> x.freeFroms[i] & 1L) == 1L) {
+                        closures[q] |= more;
+                    }
                 }
             }
-        }
-
-        private boolean widenClosures(Machine x, int i) {
-            boolean grown = false;
-            long more = closures[x.freeTos[i]];
-            for (int q = 0; q < x.states; q++) {
-                if ((closures[q] >>> x.freeFroms[i] & 1L) == 1L && (more & ~closures[q]) != 0L) {
-                    closures[q] |= more;
-                    grown = true;
-                }
-            }
-            return grown;
         }
 
         private void findTargets(Machine x, int s) {
@@ -1915,7 +1907,6 @@ public final class RangedMachines {
         /** Round n parts the sheaves that words of n letters part. */
         void findClasses() {
             Arrays.fill(apart, NONE);
-            Arrays.fill(kinds, 0);
             classes = 1;
             lastRound = 0;
             boolean parted = true;

@@ -1,5 +1,3 @@
-import java.lang.reflect.InvocationTargetException;
-import java.lang.reflect.Method;
 import java.nio.charset.StandardCharsets;
 import java.util.ArrayList;
 import java.util.Arrays;
@@ -30,29 +28,21 @@ public final class OracleTest {
         }
     }
 
-    private static final Map<String, Method> METHODS = new LinkedHashMap<>();
-    private static final Map<String, Method> ORACLES = new LinkedHashMap<>();
     private static final Map<String, Integer> SEEN = new TreeMap<>();
     private static final Map<Integer, Integer> FAULTS = new TreeMap<>();
 
     private final Random random;
-    private final RangedMachines machine = new RangedMachines();
-    private final Oracle oracle = new Oracle();
+    private final Both both = new Both();
+    private final Oracle oracle = both.oracle;
     private final List<String> log = new ArrayList<>();
 
     private OracleTest(long seed) {
         random = new Random(seed);
     }
 
-    public static void main(String[] args) throws Exception {
+    public static void main(String[] args) {
         long first = args.length > 0 ? Long.parseLong(args[0]) : 1;
         long runs = args.length > 1 ? Long.parseLong(args[1]) : 1500;
-        for (Method method : RangedMachines.class.getDeclaredMethods()) {
-            METHODS.put(method.getName(), method);
-        }
-        for (Method method : Oracle.class.getDeclaredMethods()) {
-            ORACLES.put(method.getName(), method);
-        }
         for (long seed = first; seed < first + runs; seed++) {
             if (!new OracleTest(seed).run()) {
                 System.out.println("seed " + seed + " failed");
@@ -70,7 +60,7 @@ public final class OracleTest {
         System.out.println(runs + " runs answered as the oracle does");
     }
 
-    private boolean run() throws Exception {
+    private boolean run() {
         int calls = 0;
         int style = random.nextInt(4);
         while (calls < 512) {
@@ -95,7 +85,7 @@ public final class OracleTest {
         return true;
     }
 
-    private int bench(int calls) throws Exception {
+    private int bench(int calls) {
         String text = new Texts(random).text();
         byte[] bytes = text.getBytes(StandardCharsets.ISO_8859_1);
         int length = Math.min(bytes.length, 900);
@@ -104,7 +94,7 @@ public final class OracleTest {
             padded = Arrays.copyOf(padded, 920);
         }
         if (calls + padded.length / 20 + 5 > 512) {
-            return call("trouble", new Object[0]) ? 1 : -1;
+            return call("trouble") ? 1 : -1;
         }
         for (int i = 0; i < padded.length; i += 20) {
             Object[] five = new Object[5];
@@ -116,35 +106,25 @@ public final class OracleTest {
             }
         }
         int n = random.nextInt(40) == 0 ? random.nextInt(950) - 20 : length;
-        boolean fine = call("bench", new Object[] {n}) && call("trouble", new Object[0])
-                && call("fault", new Object[0]) && call("where", new Object[0])
-                && call("total", new Object[] {4});
+        boolean fine = call("bench", n) && call("trouble")
+                && call("fault") && call("where")
+                && call("total", 4);
         FAULTS.merge(oracle.fault, 1, Integer::sum);
         return fine ? padded.length / 20 + 5 : -1;
     }
 
-    private boolean call(String name, Object[] arguments) throws Exception {
-        String due = answer(ORACLES.get(name), oracle, arguments);
-        String got = answer(METHODS.get(name), machine, arguments);
-        log.add(name + Arrays.toString(arguments) + " = " + got);
-        boolean same = due.equals(got) && machine.trouble() == oracle.trouble();
-        if (!got.equals("-1") && !got.startsWith("throws")) {
+    private boolean call(String name, Object... arguments) {
+        boolean same = both.call(name, arguments);
+        log.add(name + Arrays.toString(arguments) + " = " + both.got);
+        if (!both.got.equals("-1") && !both.got.startsWith("throws")) {
             SEEN.merge(name, 1, Integer::sum);
         }
         if (!same) {
             log.forEach(System.out::println);
-            System.out.println("due: " + due + ", trouble " + oracle.trouble() + " (got " + machine.trouble() + ")");
+            System.out.println("due: " + both.due + ", trouble " + oracle.trouble() + " (got "
+                    + both.machines.trouble() + ")");
         }
         return same;
-    }
-
-    private static String answer(Method method, Object on, Object[] arguments) throws Exception {
-        try {
-            method.setAccessible(true);
-            return String.valueOf(method.invoke(on, arguments));
-        } catch (InvocationTargetException e) {
-            return "throws " + e.getCause().getClass().getName();
-        }
     }
 
     private Object[] arguments(String name) {
