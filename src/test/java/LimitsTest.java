@@ -21,7 +21,7 @@ public final class LimitsTest {
                 + ";edge 1 2 " + singles(85, 21);
         Both x = new Both();
         x.tell(many + ";edge 1 1 [65535];edge 2 0 [0];edge 2 1 any;end 2");
-        Bench.due("blocks", x.machines.size(0, 5), 128);
+        Bench.due("blocks", number(x, "size 0 5"), 128);
         for (int k : new int[] {0, 1, -1, 2, 65409, 65410, -128, -127}) {
             x.same("moved", 0, k);
             askAll(x);
@@ -36,7 +36,7 @@ public final class LimitsTest {
         // one block more
         Both z = new Both();
         z.tell(many + ";edge 1 1 [127,65535]");
-        Bench.due("fault", z.machines.fault(), 8);
+        Bench.due("fault", number(z, "fault"), 8);
         // states that only far blocks lead to
         Both far = new Both();
         far.tell("machine 4;edge 0 0 " + singles(1, 24) + ";edge 0 0 " + singles(101, 24) + ";edge 0 1 [900];edge 1 2 [901];"
@@ -50,7 +50,7 @@ public final class LimitsTest {
             }
             Both wide = new Both();
             wide.tell(text.toString());
-            Bench.due("fault", wide.machines.fault(), 8);
+            Bench.due("fault", number(wide, "fault"), 8);
         }
     }
 
@@ -81,11 +81,11 @@ public final class LimitsTest {
         Both x = new Both();
         x.tell("set s [1];machine 12;edge 0 1 [0..8];edge 1 2 any;edge 2 3 any;edge 3 4 any;edge 4 5 any;edge 5 6 any;"
                 + "edge 6 6 any;edge 6 7 [1];edge 7 8 any;edge 8 9 any;edge 9 10 any;edge 10 11 any;edge 4 6 [2];end 11");
-        Bench.due("sheaves", x.machines.size(0, 4), 40);
+        Bench.due("sheaves", number(x, "size 0 4"), 40);
         make(x, "sure 0", "least 0", "other 0", "join 0 0 8", "join 1 0 6", "join 2 3 14", "only 0 0", "again 0",
                 "backwards 0", "past 0 2");
-        Bench.due("states of sure", x.machines.size(1, 0), 40);
-        Bench.due("states of least", x.machines.size(2, 0), 39);
+        Bench.due("states of sure", number(x, "size 1 0"), 40);
+        Bench.due("states of least", number(x, "size 2 0"), 39);
         askAll(x);
         x.same("drop");
         x.same("sure", 1);
@@ -100,7 +100,7 @@ public final class LimitsTest {
         Both x = new Both();
         x.tell(ring(5) + ";" + ring(8));
         make(x, "join 0 1 8", "join 1 0 6", "join 2 1 2", "join 2 3 14");
-        Bench.due("pairs", x.machines.size(2, 0), 40);
+        Bench.due("pairs", number(x, "size 2 0"), 40);
         askAll(x);
         Both y = new Both();
         y.tell(ring(6) + ";" + ring(7));
@@ -181,6 +181,10 @@ public final class LimitsTest {
             text.append(i == 0 ? "" : ",").append(least + 2 * i);
         }
         return text.append(']').toString();
+    }
+
+    private static long number(Both x, String call) {
+        return Long.parseLong(x.machines.ask(call));
     }
 
     private static void make(Both x, String... calls) {

@@ -12,6 +12,8 @@ import java.util.TreeMap;
  * runs.
  */
 public final class OracleTest {
+    /** With trouble() behind each they are 512. */
+    private static final int LONGEST_RUN = 256;
     /** What the parameters mean: see number(). */
     private static final Map<String, String> CALLS = new LinkedHashMap<>();
 
@@ -42,7 +44,7 @@ public final class OracleTest {
 
     public static void main(String[] args) {
         long first = args.length > 0 ? Long.parseLong(args[0]) : 1;
-        long runs = args.length > 1 ? Long.parseLong(args[1]) : 1500;
+        long runs = args.length > 1 ? Long.parseLong(args[1]) : 2500;
         for (long seed = first; seed < first + runs; seed++) {
             if (!new OracleTest(seed).run()) {
                 System.out.println("seed " + seed + " failed");
@@ -63,7 +65,7 @@ public final class OracleTest {
     private boolean run() {
         int calls = 0;
         int style = random.nextInt(4);
-        while (calls < 512) {
+        while (calls < LONGEST_RUN) {
             if (oracle.machines.isEmpty() && random.nextInt(8) > 0 || random.nextInt(style == 0 ? 12 : 150) == 0) {
                 int used = bench(calls);
                 if (used < 0) {
@@ -93,7 +95,7 @@ public final class OracleTest {
         if (random.nextInt(30) == 0) {
             padded = Arrays.copyOf(padded, 920);
         }
-        if (calls + padded.length / 20 + 5 > 512) {
+        if (calls + padded.length / 20 + 5 > LONGEST_RUN) {
             return call("trouble") ? 1 : -1;
         }
         for (int i = 0; i < padded.length; i += 20) {
@@ -121,8 +123,7 @@ public final class OracleTest {
         }
         if (!same) {
             log.forEach(System.out::println);
-            System.out.println("due: " + both.due + ", trouble " + oracle.trouble() + " (got "
-                    + both.machines.trouble() + ")");
+            System.out.println("due: " + both.due + ", trouble " + both.dueTrouble + " (got " + both.gotTrouble + ")");
         }
         return same;
     }

@@ -53,8 +53,7 @@ public final class ToldTest {
         x.plain("fault", 0);
         x.plain("where", -1);
         x.plain("trouble", 2);
-        x.no("bench 20", 4);
-        x.plain("where", 0);
+        x.faulty(20, 1, 0, "zeros");
         x.plain("trouble", 4);
         x.yes("word 4 0 0 0 0", 4);
         x.tell("machine 1");
