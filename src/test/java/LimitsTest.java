@@ -17,8 +17,8 @@ public final class LimitsTest {
 
     /** 128 blocks, of which the last is a range of its own, and edges behind it that begin with the first. */
     private static void blocks() {
-        String many = "set s " + singles(1, 24) + ";machine 3;edge 0 1 " + singles(1, 21) + ";edge 0 2 " + singles(43, 21)
-                + ";edge 1 2 " + singles(85, 21);
+        String many = "set s " + Parts.singles(1, 24) + ";machine 3;edge 0 1 " + Parts.singles(1, 21) + ";edge 0 2 " + Parts.singles(43, 21)
+                + ";edge 1 2 " + Parts.singles(85, 21);
         Both x = new Both();
         x.tell(many + ";edge 1 1 [65535];edge 2 0 [0];edge 2 1 any;end 2");
         Bench.due("blocks", number(x, "size 0 5"), 128);
@@ -39,14 +39,14 @@ public final class LimitsTest {
         Bench.due("fault", number(z, "fault"), 8);
         // states that only far blocks lead to
         Both far = new Both();
-        far.tell("machine 4;edge 0 0 " + singles(1, 24) + ";edge 0 0 " + singles(101, 24) + ";edge 0 1 [900];edge 1 2 [901];"
+        far.tell("machine 4;edge 0 0 " + Parts.singles(1, 24) + ";edge 0 0 " + Parts.singles(101, 24) + ";edge 0 1 [900];edge 1 2 [901];"
                 + "edge 2 3 [800..899];end 3");
         askAll(far);
         // more blocks than a draft has, all in the first state or some in each
         for (int step = 1; step <= 3; step++) {
             StringBuilder text = new StringBuilder("machine 2;end 1");
             for (int i = 0; i < 8; i++) {
-                text.append(";edge ").append(i % step % 2).append(" 1 ").append(singles(100 + 50 * i, 20 + step));
+                text.append(";edge ").append(i % step % 2).append(" 1 ").append(Parts.singles(100 + 50 * i, 20 + step));
             }
             Both wide = new Both();
             wide.tell(text.toString());
@@ -98,29 +98,21 @@ public final class LimitsTest {
     /** Rings of 5 and 8 make 40 pairs, of 6 and 7 make 42. */
     private static void pairs() {
         Both x = new Both();
-        x.tell(ring(5) + ";" + ring(8));
+        x.tell(Parts.ring(5, 4) + ";" + Parts.ring(8, 7));
         make(x, "join 0 1 8", "join 1 0 6", "join 2 1 2", "join 2 3 14");
         Bench.due("pairs", number(x, "size 2 0"), 40);
         askAll(x);
         Both y = new Both();
-        y.tell(ring(6) + ";" + ring(7));
+        y.tell(Parts.ring(6, 5) + ";" + Parts.ring(7, 6));
         make(y, "join 0 1 8", "join 1 0 6", "join 0 0 4");
         Both z = new Both();
-        z.tell(ring(11) + ";" + ring(12));
+        z.tell(Parts.ring(11, 10) + ";" + Parts.ring(12, 11));
         for (int f = 0; f < 16; f++) {
             z.same("found", 0, 1, f);
             for (int i = -1; i < 133; i += 7) {
                 z.same("foundLetter", 0, 1, f, i);
             }
         }
-    }
-
-    private static String ring(int n) {
-        StringBuilder text = new StringBuilder("machine ").append(n).append(";end ").append(n - 1);
-        for (int i = 0; i < n; i++) {
-            text.append(";edge ").append(i).append(' ').append((i + 1) % n).append(" any");
-        }
-        return text.toString();
     }
 
     /** Sets of many parts, whose cuts come to hundreds before they are few. */
@@ -131,7 +123,7 @@ public final class LimitsTest {
         }
         ones.append(']');
         Both x = new Both();
-        x.tell("set a (" + ones + ")&[11..40];set b !(!" + singles(0, 24) + "&([0..9]|[20..47]));machine 1;edge 0 0 a-b");
+        x.tell("set a (" + ones + ")&[11..40];set b !(!" + Parts.singles(0, 24) + "&([0..9]|[20..47]));machine 1;edge 0 0 a-b");
         x.same("ranges", 0);
         x.same("ranges", 1);
         x.same("letters", 0);
@@ -146,7 +138,7 @@ public final class LimitsTest {
         }
         // each ( with as many cuts as can be, one in the other
         Both y = new Both();
-        y.tell("set a " + singles(0, 24) + ";set b " + singles(1, 24) + ";set c " + singles(100, 24) + ";set d "
+        y.tell("set a " + Parts.singles(0, 24) + ";set b " + Parts.singles(1, 24) + ";set c " + Parts.singles(100, 24) + ";set d "
                 + ("(a|b&!c|" + "(").repeat(6) + "[7]-a" + "))".repeat(6) + "&any;machine 1;edge 0 0 d;edge 0 0 !d&[0..200]");
         y.same("ranges", 3);
         y.same("letters", 3);
@@ -173,14 +165,6 @@ public final class LimitsTest {
         y.tell("machine 1" + " ".repeat(891));
         y.tell(" ".repeat(891) + "machine 1");
         y.tell(" ".repeat(892) + "machine ");
-    }
-
-    private static String singles(int least, int n) {
-        StringBuilder text = new StringBuilder("[");
-        for (int i = 0; i < n; i++) {
-            text.append(i == 0 ? "" : ",").append(least + 2 * i);
-        }
-        return text.append(']').toString();
     }
 
     private static long number(Both x, String call) {

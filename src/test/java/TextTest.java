@@ -546,48 +546,39 @@ public final class TextTest {
     /** 5: the whole BODY of a LINE whose SET has more than 24 RANGES, at its first TOKEN (met when it ends). */
     private static void manyRanges() {
         Bench x = Bench.full();
-        x.fine("set a " + singles(0, 24) + ";machine 1;edge 0 0 " + singles(0, 24), 1);
+        x.fine("set a " + Parts.singles(0, 24) + ";machine 1;edge 0 0 " + Parts.singles(0, 24), 1);
         x.yes("ranges 0", 24);
         x.yes("edge 0 0 2", 24);
-        faulty("set a " + singles(0, 25) + ";machine 1", 5, 6);
-        faulty("set a   " + singles(0, 25) + ";machine 1", 5, 8);
-        faulty("set a  (" + singles(0, 25) + ");machine 1", 5, 7);
-        faulty("set a [100]|" + singles(0, 24) + ";machine 1", 5, 6);
+        faulty("set a " + Parts.singles(0, 25) + ";machine 1", 5, 6);
+        faulty("set a   " + Parts.singles(0, 25) + ";machine 1", 5, 8);
+        faulty("set a  (" + Parts.singles(0, 25) + ");machine 1", 5, 7);
+        faulty("set a [100]|" + Parts.singles(0, 24) + ";machine 1", 5, 6);
         // 0, 2 .. 46 leave 24 others, the last one to the end; 1, 3 .. 47 leave 25
-        fine("set a !" + singles(0, 24) + ";machine 1", 1);
-        faulty("set a !" + singles(1, 24) + ";machine 1", 5, 6);
-        faulty("machine 1;edge 0 0 any&" + singles(0, 25), 5, 19);
-        faulty("set a " + singles(0, 13) + ";set b a|" + singles(100, 12) + ";machine 1", 5, 13 + singles(0, 13).length());
+        fine("set a !" + Parts.singles(0, 24) + ";machine 1", 1);
+        faulty("set a !" + Parts.singles(1, 24) + ";machine 1", 5, 6);
+        faulty("machine 1;edge 0 0 any&" + Parts.singles(0, 25), 5, 19);
+        faulty("set a " + Parts.singles(0, 13) + ";set b a|" + Parts.singles(100, 12) + ";machine 1", 5, 13 + Parts.singles(0, 13).length());
         // met when it ends: ahead of what comes behind it, behind what stands in it
-        int end = 6 + singles(0, 25).length();
-        faulty("set a " + singles(0, 25) + "]", 5, 6);
-        faulty("set a " + singles(0, 25) + ")", 5, 6);
-        faulty("set a " + singles(0, 25) + " #", 5, 6);
-        faulty("set a " + singles(0, 25) + " any", 5, 6);
-        faulty("set a " + singles(0, 25), 5, 6);
-        faulty("set a " + singles(0, 25) + ";", 5, 6);
-        faulty("set a " + singles(0, 25) + "|", 1, end + 1);
-        faulty("set a " + singles(0, 25) + "|b", 2, end + 1);
-        faulty("set a " + singles(0, 25) + "|[70000]", 4, end + 2);
-        faulty("set a (" + singles(0, 25), 1, end + 1);
-        faulty("set a (" + singles(0, 25) + "]", 1, end + 1);
-        faulty("set b any;set b " + singles(0, 25), 3, 14);
+        int end = 6 + Parts.singles(0, 25).length();
+        faulty("set a " + Parts.singles(0, 25) + "]", 5, 6);
+        faulty("set a " + Parts.singles(0, 25) + ")", 5, 6);
+        faulty("set a " + Parts.singles(0, 25) + " #", 5, 6);
+        faulty("set a " + Parts.singles(0, 25) + " any", 5, 6);
+        faulty("set a " + Parts.singles(0, 25), 5, 6);
+        faulty("set a " + Parts.singles(0, 25) + ";", 5, 6);
+        faulty("set a " + Parts.singles(0, 25) + "|", 1, end + 1);
+        faulty("set a " + Parts.singles(0, 25) + "|b", 2, end + 1);
+        faulty("set a " + Parts.singles(0, 25) + "|[70000]", 4, end + 2);
+        faulty("set a (" + Parts.singles(0, 25), 1, end + 1);
+        faulty("set a (" + Parts.singles(0, 25) + "]", 1, end + 1);
+        faulty("set b any;set b " + Parts.singles(0, 25), 3, 14);
         // a part of a body may have more; ranges that touch are one
-        x.fine("set a " + singles(0, 25) + "&[0..9]|[1];set b " + singles(0, 25) + "|[47];set c !!(" + singles(0, 25)
+        x.fine("set a " + Parts.singles(0, 25) + "&[0..9]|[1];set b " + Parts.singles(0, 25) + "|[47];set c !!(" + Parts.singles(0, 25)
                 + ")-[0];machine 1", 1);
         x.yes("ranges 0", 4);
         x.yes("letters 0", 6);
         x.yes("ranges 1", 24);
         x.yes("ranges 2", 24);
-    }
-
-    /** Ranges of one letter, with one letter between. */
-    private static String singles(int least, int n) {
-        StringBuilder text = new StringBuilder("[");
-        for (int i = 0; i < n; i++) {
-            text.append(i == 0 ? "" : ",").append(least + 2 * i);
-        }
-        return text.append(']').toString();
     }
 
     /** 6: more than 12 ! and ( open; at it. (A ! is open till its PART ends.) */
@@ -643,21 +634,21 @@ public final class TextTest {
     private static void wide() {
         Bench x = Bench.full();
         // 63 ranges apart from one another and from both ends: 127 blocks; each more of them two more
-        String three = "machine 1;edge 0 0 " + singles(1, 21) + ";edge 0 0 " + singles(43, 21) + ";edge 0 0 ";
-        x.fine(three + singles(85, 21), 1);
+        String three = "machine 1;edge 0 0 " + Parts.singles(1, 21) + ";edge 0 0 " + Parts.singles(43, 21) + ";edge 0 0 ";
+        x.fine(three + Parts.singles(85, 21), 1);
         x.yes("size 0 5", 127);
-        x.fine(three + singles(85, 21) + ";edge 0 0 [65535]", 1);
+        x.fine(three + Parts.singles(85, 21) + ";edge 0 0 [65535]", 1);
         x.yes("size 0 5", 128);
-        int end = three.length() + singles(85, 22).length();
-        faulty(three + singles(85, 22) + ";end 0", 8, end + 6);
-        faulty(three + singles(85, 22), 8, end);
-        faulty("machine 1;" + three + singles(85, 22) + ";machine 2;end 0 ", 8, end + 27);
+        int end = three.length() + Parts.singles(85, 22).length();
+        faulty(three + Parts.singles(85, 22) + ";end 0", 8, end + 6);
+        faulty(three + Parts.singles(85, 22), 8, end);
+        faulty("machine 1;" + three + Parts.singles(85, 22) + ";machine 2;end 0 ", 8, end + 27);
         // each machine has blocks of its own
-        x.fine(three + singles(85, 21) + ";machine 1;edge 0 0 " + singles(1000, 24), 2);
+        x.fine(three + Parts.singles(85, 21) + ";machine 1;edge 0 0 " + Parts.singles(1000, 24), 2);
         // a fault of another sort is met ahead of the end; at the end FORM is less
-        faulty(three + singles(85, 22) + ";end 1", 2, end + 5);
-        faulty(three + singles(85, 22) + ";end", 1, end + 4);
-        faulty(three + singles(85, 22) + ";", 1, end + 1);
+        faulty(three + Parts.singles(85, 22) + ";end 1", 2, end + 5);
+        faulty(three + Parts.singles(85, 22) + ";end", 1, end + 4);
+        faulty(three + Parts.singles(85, 22) + ";", 1, end + 1);
         String chain = ";edge 0 0 any;edge 0 1 [1];edge 1 2 any;edge 2 3 any;edge 3 4 any;edge 4 5 any";
         x.fine("machine 6" + chain, 1);
         x.yes("size 0 4", 32);
@@ -701,7 +692,7 @@ public final class TextTest {
         x.yes("ends 0", 1);
         x.faulty("set q " + "(".repeat(13), 6, 18);
         x.fine("set q " + "(".repeat(12) + "[1]" + ")".repeat(12) + ";machine 1", 1);
-        x.faulty("machine 1;edge 0 0 " + singles(0, 25), 5, 19);
+        x.faulty("machine 1;edge 0 0 " + Parts.singles(0, 25), 5, 19);
         x.fine("machine 2;edge 0 1 [1]", 1);
         x.edges(0, "0 1 1");
     }
