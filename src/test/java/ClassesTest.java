@@ -156,8 +156,8 @@ public final class ClassesTest {
         x.word("first 1 3", "firstLetter 1 3", 0, 5);
         x.word("first 2 0", "firstLetter 2 0");
         // the last letter; of like long words that with the less letter where they first differ
-        Bench y = Bench.of("machine 4;edge 0 1 [65535];end 1;machine 4;edge 0 1 [9];edge 0 2 [8];edge 1 3 [0];edge 2 3 [65535];"
-                + "edge 1 1 [1];end 3");
+        Bench y = Bench.of("machine 4;edge 0 1 [65535];end 1;machine 4;edge 0 1 [9];edge 0 2 [8];edge 1 3 [0];"
+                + "edge 2 3 [65535];edge 1 1 [1];end 3");
         y.word("first 0 2", "firstLetter 0 2", 65535);
         y.word("first 1 4", "firstLetter 1 4", 8, 65535);
     }

@@ -17,8 +17,8 @@ public final class LimitsTest {
 
     /** 128 blocks, of which the last is a range of its own, and edges behind it that begin with the first. */
     private static void blocks() {
-        String many = "set s " + Parts.singles(1, 24) + ";machine 3;edge 0 1 " + Parts.singles(1, 21) + ";edge 0 2 " + Parts.singles(43, 21)
-                + ";edge 1 2 " + Parts.singles(85, 21);
+        String many = "set s " + Parts.singles(1, 24) + ";machine 3" + Parts.edge(0, 1, Parts.singles(1, 21))
+                + Parts.edge(0, 2, Parts.singles(43, 21)) + Parts.edge(1, 2, Parts.singles(85, 21));
         Both x = new Both();
         x.tell(many + ";edge 1 1 [65535];edge 2 0 [0];edge 2 1 any;end 2");
         Bench.due("blocks", number(x, "size 0 5"), 128);
@@ -39,8 +39,8 @@ public final class LimitsTest {
         Bench.due("fault", number(z, "fault"), 8);
         // states that only far blocks lead to
         Both far = new Both();
-        far.tell("machine 4;edge 0 0 " + Parts.singles(1, 24) + ";edge 0 0 " + Parts.singles(101, 24) + ";edge 0 1 [900];edge 1 2 [901];"
-                + "edge 2 3 [800..899];end 3");
+        far.tell("machine 4" + Parts.edge(0, 0, Parts.singles(1, 24)) + Parts.edge(0, 0, Parts.singles(101, 24))
+                + ";edge 0 1 [900];edge 1 2 [901];edge 2 3 [800..899];end 3");
         askAll(far);
         // more blocks than a draft has, all in the first state or some in each
         for (int step = 1; step <= 3; step++) {
@@ -123,7 +123,8 @@ public final class LimitsTest {
         }
         ones.append(']');
         Both x = new Both();
-        x.tell("set a (" + ones + ")&[11..40];set b !(!" + Parts.singles(0, 24) + "&([0..9]|[20..47]));machine 1;edge 0 0 a-b");
+        x.tell("set a (" + ones + ")&[11..40];set b !(!" + Parts.singles(0, 24)
+                + "&([0..9]|[20..47]));machine 1;edge 0 0 a-b");
         x.same("ranges", 0);
         x.same("ranges", 1);
         x.same("letters", 0);
@@ -138,8 +139,8 @@ public final class LimitsTest {
         }
         // each ( with as many cuts as can be, one in the other
         Both y = new Both();
-        y.tell("set a " + Parts.singles(0, 24) + ";set b " + Parts.singles(1, 24) + ";set c " + Parts.singles(100, 24) + ";set d "
-                + ("(a|b&!c|" + "(").repeat(6) + "[7]-a" + "))".repeat(6) + "&any;machine 1;edge 0 0 d;edge 0 0 !d&[0..200]");
+        y.tell("set a " + Parts.singles(0, 24) + ";set b " + Parts.singles(1, 24) + ";set c "
+                + Parts.singles(100, 24) + ";set d " + ("(a|b&!c|" + "(").repeat(6) + "[7]-a" + "))".repeat(6) + "&any;machine 1;edge 0 0 d;edge 0 0 !d&[0..200]");
         y.same("ranges", 3);
         y.same("letters", 3);
         for (int i = 0; i < 25; i++) {

@@ -31,6 +31,7 @@ public final class MachinesTest {
         term();
         noSuchTerm();
         highBits();
+        mostBlocks();
         withoutMachines();
         Bench.end();
     }
@@ -325,6 +326,30 @@ public final class MachinesTest {
         x.yes("taken 4", 1);
         x.yes("terms 4 39", 1);
         x.none("terms 4 #", 40, 1);
+    }
+
+    /** 128 blocks: the last one is the last letter, and no range of an edge comes round to the first. */
+    private static void mostBlocks() {
+        Bench x = Bench.of("machine 3" + Parts.edge(0, 0, Parts.singles(1, 21)) + Parts.edge(0, 0, Parts.singles(43, 21))
+                + Parts.edge(0, 0, Parts.singles(85, 21)) + ";edge 0 1 [65535];edge 1 2 any;end 2");
+        x.yes("size 0 5", 128);
+        x.yes("block 0 126", 126);
+        x.yes("block 0 127", 65535);
+        x.none("block 0 #", 128, 1);
+        x.yes("edge 0 2 2", 21);
+        x.yes("edgeRange 0 2 20 true", 125);
+        x.none("edgeRange 0 2 # false", 21, 1);
+        for (int i = 3; i < 5; i++) {
+            x.yes("edge 0 " + i + " 2", 1);
+            x.yes("edge 0 " + i + " 3", i == 3 ? 1 : 65536);
+            x.yes("edgeRange 0 " + i + " 0 false", i == 3 ? 65535 : 0);
+            x.yes("edgeRange 0 " + i + " 0 true", 65535);
+        }
+        x.yes("useless 0", 0);
+        termsOf(x, 0, 0, new int[][] {{0, 65472, 0}, {1, 21, 1}, {43, 21, 1}, {85, 21, 1}, {65535, 1, 1}});
+        termsOf(x, 0, 1, new int[][] {{0, 65536, 1}});
+        x.yes("word 2 65535 65535 0 0", 2);
+        x.yes("leads 0", 4);
     }
 
     /** No MACHINES: 0 is none such. */

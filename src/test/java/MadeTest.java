@@ -215,7 +215,7 @@ public final class MadeTest {
         x.yes("count 3 3", 1);
     }
 
-    /** 50: a STATE 0 ahead; FREE steps from 0 to each that was an END; then those of m, and its EDGES, turned; the END is 1. */
+    /** 50: a STATE 0 ahead; FREE steps from 0 to each that was an END; then those of m, its EDGES, turned; the END is 1. */
     private static void backwards() {
         Bench x = Bench.of(TEXT);
         x.yes("backwards 0", 2);
@@ -236,7 +236,7 @@ public final class MadeTest {
         x.frees(4, "0 2", "4 1", "3 2");
     }
 
-    /** 49, 50: without ENDS no FREE steps for them: the word without letters alone is taken again and again, none backwards. */
+    /** 49, 50: without ENDS no FREE steps for them: the word without letters is taken again and again, none backwards. */
     private static void withoutEnds() {
         Bench x = Bench.of("machine 2;edge 0 1 [7];free 1 1");
         x.yes("again 0", 1);

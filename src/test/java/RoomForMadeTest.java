@@ -12,6 +12,7 @@ public final class RoomForMadeTest {
         frees();
         blocksBehind();
         blocksOfPairs();
+        blocksOfBoth();
         blocksOnly();
         blocksMoved();
         sheavesBehind();
@@ -236,6 +237,41 @@ public final class RoomForMadeTest {
         x.no("behind 0 1", 3);
         x.yes("behind 0 2", 3);
         x.yes("size 3 5", 128);
+    }
+
+    /** Two of 128 blocks each, that have 255 together. */
+    private static void blocksOfBoth() {
+        StringBuilder text = new StringBuilder();
+        for (int m = 0; m < 2; m++) {
+            text.append(m == 0 ? "" : ";").append("machine 2;end 1");
+            for (int i = 0; i < 3; i++) {
+                text.append(Parts.edge(0, 1, Parts.singles(300 * m + 1 + 42 * i, 21)));
+            }
+            text.append(Parts.edge(0, 1, m == 0 ? "[65535]" : "[65533..65535]"));
+        }
+        Bench x = Bench.of(text.toString());
+        x.yes("size 0 5", 128);
+        x.yes("size 1 5", 128);
+        x.no("behind 0 1", 3);
+        x.no("join 0 1 14", 3);
+        x.no("join 1 0 0", 3);
+        x.word("found 0 1 8", "foundLetter 0 1 8", 65535);
+        x.word("found 0 1 2", "foundLetter 0 1 2", 1);
+        x.word("found 0 1 4", "foundLetter 0 1 4", 301);
+        x.yes("join 0 0 6", 2);
+        x.yes("behind 1 1", 3);
+        x.yes("size 3 5", 128);
+        // without ENDS nothing parts the letters of what is joined: one class of each, one block
+        Bench y = Bench.of(text.toString().replace(";end 1", ""));
+        y.yes("size 1 5", 128);
+        y.no("behind 0 1", 3);
+        for (int f = 0; f < 16; f++) {
+            y.yes("join 0 1 " + f, 2);
+            y.edges(2, "0 0 0-65535");
+            y.yes("size 2 5", 1);
+            y.yes("ends 2", f & 1);
+            y.yes("drop", 2);
+        }
     }
 
     /** Blocks that a set's ranges cut: 85, 1 where it ends, 2 for each letter behind it, 1 for the last letter. */

@@ -104,6 +104,13 @@ public final class TextTest {
             y.plain("feed 0 0 0 0 0", n);
         }
         y.still("feed 0 0 0 0 0", -1);
+        // 900 bytes of text, and as many tokens as there can be
+        fine("machine 1;edge 0 0[" + "7,".repeat(439) + "7 ]", 1);
+        faulty("machine 1;edge 0 0[" + "7,".repeat(440) + "7", 1, 900);
+        faulty(";".repeat(900), 1, 0);
+        faulty("machine 1" + " ".repeat(890) + "#", 1, 899);
+        faulty("machine 1" + ";end 0".repeat(148), 3, 20);
+        faulty(" ".repeat(892) + "machine ", 1, 900);
     }
 
     /** 3: NONE: 2 (THE TAPE stays). */
@@ -557,7 +564,8 @@ public final class TextTest {
         fine("set a !" + Parts.singles(0, 24) + ";machine 1", 1);
         faulty("set a !" + Parts.singles(1, 24) + ";machine 1", 5, 6);
         faulty("machine 1;edge 0 0 any&" + Parts.singles(0, 25), 5, 19);
-        faulty("set a " + Parts.singles(0, 13) + ";set b a|" + Parts.singles(100, 12) + ";machine 1", 5, 13 + Parts.singles(0, 13).length());
+        String half = "set a " + Parts.singles(0, 13) + ";set b ";
+        faulty(half + "a|" + Parts.singles(100, 12) + ";machine 1", 5, half.length());
         // met when it ends: ahead of what comes behind it, behind what stands in it
         int end = 6 + Parts.singles(0, 25).length();
         faulty("set a " + Parts.singles(0, 25) + "]", 5, 6);
@@ -573,8 +581,8 @@ public final class TextTest {
         faulty("set a (" + Parts.singles(0, 25) + "]", 1, end + 1);
         faulty("set b any;set b " + Parts.singles(0, 25), 3, 14);
         // a part of a body may have more; ranges that touch are one
-        x.fine("set a " + Parts.singles(0, 25) + "&[0..9]|[1];set b " + Parts.singles(0, 25) + "|[47];set c !!(" + Parts.singles(0, 25)
-                + ")-[0];machine 1", 1);
+        String most = Parts.singles(0, 25);
+        x.fine("set a " + most + "&[0..9]|[1];set b " + most + "|[47];set c !!(" + most + ")-[0];machine 1", 1);
         x.yes("ranges 0", 4);
         x.yes("letters 0", 6);
         x.yes("ranges 1", 24);
@@ -643,6 +651,12 @@ public final class TextTest {
         faulty(three + Parts.singles(85, 22) + ";end 0", 8, end + 6);
         faulty(three + Parts.singles(85, 22), 8, end);
         faulty("machine 1;" + three + Parts.singles(85, 22) + ";machine 2;end 0 ", 8, end + 27);
+        // far more than there is room for
+        StringBuilder far = new StringBuilder("machine 2;end 1");
+        for (int i = 0; i < 8; i++) {
+            far.append(Parts.edge(i % 2, 1, Parts.singles(100 + 50 * i, 23)));
+        }
+        faulty(far.toString(), 8, far.length());
         // each machine has blocks of its own
         x.fine(three + Parts.singles(85, 21) + ";machine 1;edge 0 0 " + Parts.singles(1000, 24), 2);
         // a fault of another sort is met ahead of the end; at the end FORM is less
