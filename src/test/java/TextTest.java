@@ -690,6 +690,15 @@ public final class TextTest {
         faulty("set a " + "!".repeat(13) + "#", 6, 18);
         faulty("set a " + "!".repeat(5) + "#" + "!".repeat(13), 1, 11);
         faulty("# machine 1", 1, 0);
+        // of one place the least number: a WORD that can't stand there is FORM, whether or not it lacks a machine or room
+        faulty("set a any edge 0 0 any", 1, 10);
+        faulty("set a any free 0 0", 1, 10);
+        faulty("set a any end 0", 1, 10);
+        faulty("machine 1;machine 1;machine 1;machine 1 machine 1", 1, 40);
+        faulty("machine 1" + ";free 0 0".repeat(8) + " free 0 0", 1, 82);
+        faulty("machine 1" + ";edge 0 0 any".repeat(24) + " edge 0 0 any", 1, 322);
+        faulty("machine 1;end 0;edge 0 0 [9..8", 4, 29);
+        faulty("set a any;set machine any", 1, 14);
     }
 
     /** What a text with a fault told is no more when the next one is read. */
